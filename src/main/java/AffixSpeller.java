@@ -90,7 +90,7 @@ public final class AffixSpeller {
         if (bufferLength > PART_LETTERS) {
             return BAD_WORD;
         }
-        if (part != CONDITION && bufferHasAnyLetter()) {
+        if (part != CONDITION && bufferHasNine()) {
             return BAD_WORD;
         }
         int length = bufferLength;
@@ -179,7 +179,7 @@ public final class AffixSpeller {
     }
 
     public int continuations() {
-        if (bufferLength >= WORD_LETTERS || bufferHasAnyLetter()) {
+        if (bufferLength >= WORD_LETTERS || bufferHasNine()) {
             return 0;
         }
         int count = 0;
@@ -193,7 +193,7 @@ public final class AffixSpeller {
         return count;
     }
 
-    private boolean bufferHasAnyLetter() {
+    private boolean bufferHasNine() {
         for (int i = 0; i < bufferLength; i++) {
             if (buffer[i] == ANY_LETTER) {
                 return true;
@@ -203,7 +203,7 @@ public final class AffixSpeller {
     }
 
     private boolean bufferIsPlainWord() {
-        return bufferLength > 0 && !bufferHasAnyLetter();
+        return bufferLength > 0 && !bufferHasNine();
     }
 
     private void copyKeptParts(int number) {
