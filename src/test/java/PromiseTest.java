@@ -1,91 +1,6 @@
-/**
- * Goes through the document's promises: ordinary inputs, the edges it names, and wrong inputs.
- * No object gets more than 512 calls, since what later calls answer is free.
- */
-public final class PromiseTest {
-    private static final int BAD_LETTER = -1;
-    private static final int FULL = -2;
-    private static final int BAD_WORD = -3;
-    private static final int BAD_PART = -4;
-    private static final int BAD_FLAG = -5;
-    private static final int NONE = -6;
-    private static final boolean SUFFIX = true;
-    private static final boolean PREFIX = false;
-    private static final boolean CROSS = true;
-    private static final boolean ALONE = false;
+/** Goes through the document's promises: ordinary inputs, the edges it names, and wrong inputs. */
+public final class PromiseTest extends Bench {
     private static final int[] FAR = {Integer.MIN_VALUE, Integer.MAX_VALUE, NONE, 1000};
-
-    private static int wrong = 0;
-    private static String place = "";
-
-    private static void due(String what, int got, int want) {
-        if (got != want) {
-            wrong++;
-            System.out.println(place + ": " + what + " answered " + got + ", due is " + want);
-        }
-    }
-
-    /** Words are written as digits, as in "123". */
-    private static void spell(AffixSpeller x, String word) {
-        x.erase();
-        for (int i = 0; i < word.length(); i++) {
-            x.type(word.charAt(i) - '0');
-        }
-    }
-
-    private static int addStem(AffixSpeller x, String word, int flags) {
-        spell(x, word);
-        return x.stem(flags);
-    }
-
-    private static void keepParts(AffixSpeller x, String strip, String append, String condition) {
-        spell(x, strip);
-        x.keep(0);
-        spell(x, append);
-        x.keep(1);
-        spell(x, condition);
-        x.keep(2);
-    }
-
-    private static int addRule(AffixSpeller x, String parts, int flag, boolean suffix, boolean cross) {
-        String[] part = parts.split("/", -1);
-        keepParts(x, part[0], part[1], part[2]);
-        return x.rule(flag, suffix, cross);
-    }
-
-    /** Asks for the whole list of derivations of a word, as in "0:-:1 2:3:-" (stem:suffix:prefix). */
-    private static void dueList(AffixSpeller x, String word, String want) {
-        spell(x, word);
-        StringBuilder got = new StringBuilder();
-        int count = x.derivations();
-        for (int n = 0; n < count; n++) {
-            got.append(n == 0 ? "" : " ").append(name(x.stemOf(n))).append(':');
-            got.append(name(x.suffixOf(n))).append(':').append(name(x.prefixOf(n)));
-        }
-        if (!got.toString().equals(want)) {
-            wrong++;
-            System.out.println(place + ": " + word + " has [" + got + "], due is [" + want + "]");
-        }
-        dueNothingAt(x, word, count);
-        dueNothingAt(x, word, -1);
-        due("length after questions", x.length(), word.length());
-    }
-
-    private static void dueNothingAt(AffixSpeller x, String word, int n) {
-        due(word + " stemOf(" + n + ")", x.stemOf(n), NONE);
-        due(word + " suffixOf(" + n + ")", x.suffixOf(n), NONE);
-        due(word + " prefixOf(" + n + ")", x.prefixOf(n), NONE);
-    }
-
-    private static String name(int number) {
-        return number == NONE ? "-" : Integer.toString(number);
-    }
-
-    private static void dueContinuations(AffixSpeller x, String word, int want) {
-        spell(x, word);
-        due(word + " continuations", x.continuations(), want);
-        due("length after continuations", x.length(), word.length());
-    }
 
     private static void newObject() {
         place = "promise 1";
@@ -224,7 +139,7 @@ public final class PromiseTest {
         for (int bad : new int[] {-1, 8, 9, Integer.MIN_VALUE, Integer.MAX_VALUE}) {
             due("rule(" + bad + ")", x.rule(bad, SUFFIX, CROSS), BAD_FLAG);
         }
-        keepParts(x, "", "8", "");
+        keepParts(x, "/8/");
         spell(x, "55");
         for (int number = 0; number < 10; number++) {
             boolean suffix = number % 2 == 0;
@@ -256,7 +171,7 @@ public final class PromiseTest {
         place = "promise 5, refused";
         AffixSpeller x = new AffixSpeller();
         addStem(x, "1", 255);
-        keepParts(x, "", "2", "");
+        keepParts(x, "/2/");
         x.rule(8, SUFFIX, CROSS);
         x.rule(-1, SUFFIX, CROSS);
         dueList(x, "12", "");
@@ -302,9 +217,9 @@ public final class PromiseTest {
         for (int s = 0; s < flags.length; s++) {
             due("stem(" + flags[s] + ")", addStem(x, "1", flags[s]), s);
         }
-        keepParts(x, "", "2", "");
+        keepParts(x, "/2/");
         x.rule(0, SUFFIX, ALONE);
-        keepParts(x, "", "3", "");
+        keepParts(x, "/3/");
         x.rule(7, SUFFIX, ALONE);
         dueList(x, "12", "1:0:- 3:0:- 5:0:- 6:0:- 9:0:-");
         dueList(x, "13", "2:1:- 3:1:- 6:1:- 9:1:-");
@@ -615,9 +530,6 @@ public final class PromiseTest {
         continuing();
         continuingLongWords();
         orderOfTests();
-        System.out.println(wrong == 0 ? "all promises hold" : wrong + " answers are not as due");
-        if (wrong != 0) {
-            System.exit(1);
-        }
+        finish("all promises hold");
     }
 }
