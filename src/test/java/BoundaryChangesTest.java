@@ -11,6 +11,7 @@ public final class BoundaryChangesTest extends Bench {
         addStem(x, "12", 1);
         addStem(x, "135", 2);
         addStem(x, "1235", 4);
+        addStem(x, "22", 1);
         keepParts(x, "2/35/12");
         x.rule(0, SUFFIX, CROSS);
         spell(x, "135");
@@ -25,21 +26,26 @@ public final class BoundaryChangesTest extends Bench {
         due("flags of stem 0", x.reflag(0, 1), 1);
         due("flags of stem 1", x.reflag(1, 2), 2);
         due("flags of stem 2", x.reflag(2, 4), 4);
-        due("flags of stem 3", x.reflag(3, 8), NONE);
-        due("the next stem", x.stem(8), 3);
-        dueList(x, "135", "0:0:- 0:1:- 1:-:- 3:-:-");
-        due("flags of stem 3", x.reflag(3, 8), 8);
+        due("flags of stem 3", x.reflag(3, 1), 1);
+        due("flags of stem 4", x.reflag(4, 8), NONE);
+        due("the next stem", x.stem(8), 4);
+        dueList(x, "135", "0:0:- 0:1:- 1:-:- 4:-:-");
+        due("flags of stem 4", x.reflag(4, 8), 8);
+        // CONDITION keeps both rules from the stem 22.
+        dueList(x, "235", "");
     }
 
-    /** Shows that the buffer is 19: as a condition, it suits a 12 and not a 22. */
+    /** Shows that the buffer of a prepared object is 19: as CONDITION, it suits the stem 12, not 22. */
     private static void dueBufferIsOneNine(AffixSpeller x) {
         due("length", x.length(), 2);
         due("keep(2) of what stays", x.keep(CONDITION), 2);
-        int number = x.rule(0, SUFFIX, CROSS);
-        int stem = addStem(x, "22", 1);
+        due("the next rule", x.rule(0, SUFFIX, CROSS), 1);
         dueList(x, "235", "");
-        dueList(x, "135", "0:0:- 0:" + number + ":- 1:-:-");
-        dueList(x, "22", stem + ":-:-");
+        dueList(x, "135", "0:0:- 0:1:- 1:-:-");
+        addStem(x, "18", 1);
+        keepWord(x, "", STRIP);
+        due("the next rule", x.rule(0, SUFFIX, CROSS), 2);
+        dueList(x, "1835", "4:2:-");
     }
 
     private static void addStems(AffixSpeller x, int count) {
@@ -187,6 +193,7 @@ public final class BoundaryChangesTest extends Bench {
     private static void eraseAnEmptyBuffer() {
         AffixSpeller x = begin("Promise 3", "Empties the buffer.");
         x.erase();
+        due("length", x.length(), 0);
         x.erase();
         due("length", x.length(), 0);
         due("type(1)", x.type(1), 1);
@@ -434,10 +441,12 @@ public final class BoundaryChangesTest extends Bench {
     private static void partsStayKept() {
         AffixSpeller x = begin("Promise 5", "with the three parts as they are kept now (they stay kept)");
         addStem(x, "12", 1);
+        addStem(x, "22", 1);
         keepParts(x, "2/3/12");
         for (int r = 0; r < 10; r++) {
             due("rule number " + r, x.rule(0, SUFFIX, ALONE), r);
         }
+        dueList(x, "23", "");
         dueList(x, "13", "0:0:- 0:1:- 0:2:- 0:3:- 0:4:- 0:5:- 0:6:- 0:7:- 0:8:- 0:9:-");
     }
 
@@ -493,7 +502,7 @@ public final class BoundaryChangesTest extends Bench {
         AffixSpeller x = prepared(begin("Promise 6", "nothing changes then"));
         spell(x, "19");
         due("stem of 19", x.stem(255), BAD_WORD);
-        due("flags of stem 3", x.reflag(3, 0), NONE);
+        due("flags of stem 4", x.reflag(4, 0), NONE);
         dueBufferIsOneNine(x);
     }
 
@@ -576,7 +585,7 @@ public final class BoundaryChangesTest extends Bench {
 
     private static void reflagOfNoStemChangesNothing() {
         AffixSpeller x = prepared(begin("Promise 7", "No such stem: NONE, nothing changes."));
-        for (int s : new int[] {-1, 3, 11, 12, 256, LEAST, MOST}) {
+        for (int s : new int[] {-1, 4, 11, 12, 256, LEAST, MOST}) {
             due("reflag(" + s + ", 0)", x.reflag(s, 0), NONE);
             due("reflag(" + s + ", 255)", x.reflag(s, 255), NONE);
         }

@@ -193,13 +193,16 @@ public final class BoundaryTermsTest extends Bench {
         addStem(x, "412", 1);
         addStem(x, "12", 1);
         addStem(x, "2", 1);
+        addRule(x, "12/56/", 0, SUFFIX, ALONE);
         addRule(x, "12/3/", 0, SUFFIX, ALONE);
         // This rule puts a 1 before each stem: the stem 2 must not be taken to end in 12 for it.
         addRule(x, "/1/", 0, PREFIX, ALONE);
-        dueList(x, "43", "0:0:-");
-        dueList(x, "3", "1:0:-");
-        dueList(x, "3", "1:0:-");
-        dueList(x, "12", "1:-:- 2:-:1");
+        dueList(x, "456", "0:0:-");
+        dueList(x, "56", "1:0:-");
+        dueList(x, "43", "0:1:-");
+        dueList(x, "3", "1:1:-");
+        dueList(x, "6", "");
+        dueList(x, "12", "1:-:- 2:-:2");
     }
 
     private static void suffixOnAWordAsLongAsCondition() {
@@ -226,12 +229,16 @@ public final class BoundaryTermsTest extends Bench {
         addStem(x, "124", 1);
         addStem(x, "12", 1);
         addStem(x, "1", 1);
+        addRule(x, "12/56/", 0, PREFIX, ALONE);
         addRule(x, "12/3/", 0, PREFIX, ALONE);
+        // This rule puts a 2 behind each stem: the stem 1 must not be taken to begin with 12 for it.
         addRule(x, "/2/", 0, SUFFIX, ALONE);
-        dueList(x, "34", "0:-:0");
-        dueList(x, "3", "1:-:0");
-        dueList(x, "3", "1:-:0");
-        dueList(x, "12", "1:-:- 2:1:-");
+        dueList(x, "564", "0:-:0");
+        dueList(x, "56", "1:-:0");
+        dueList(x, "34", "0:-:1");
+        dueList(x, "3", "1:-:1");
+        dueList(x, "5", "");
+        dueList(x, "12", "1:-:- 2:2:-");
     }
 
     private static void prefixOnAWordAsLongAsCondition() {

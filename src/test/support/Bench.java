@@ -1,6 +1,6 @@
 /**
  * What the tests share: they count the answers that are not as due, and write words as digits, as
- * in "123". No test gives one object more than 512 calls, since what later calls answer is free.
+ * in "123". No test looks at what an object answers after its 512th call, since that is free.
  */
 abstract class Bench {
     // Written out, so that a wrong constant of the class is not taken for right.
