@@ -224,9 +224,11 @@ public final class ModelTest {
         return pick(6) == 0 ? wide[pick(wide.length)] : pick(256) | pick(256);
     }
 
+    /** Keeps a part; now and then one with too many letters, or with a 9 where none is good. */
     private static void keepPart(int part, int letters) {
-        String word = pickWord(pick(3), letters);
-        if (part == 2 && !word.isEmpty() && pick(2) == 0) {
+        String word = pickWord(pick(12) == 0 ? 6 : pick(4), letters);
+        boolean nine = pick(part == 2 ? 2 : 12) == 0;
+        if (nine && !word.isEmpty()) {
             int at = pick(word.length());
             word = word.substring(0, at) + "9" + word.substring(at + 1);
         }
